@@ -70,9 +70,10 @@ public final class ChipRing {
     private int fulls;
 
     public ChipRing() {
-        board = new Board();
-        nets = new Nets(board);
-        tester = new Tester(board);
+        Board empty = new Board();
+        board = empty;
+        nets = new Nets(empty);
+        tester = new Tester(empty);
         history = new History();
         text = new Text();
     }
@@ -888,18 +889,14 @@ public final class ChipRing {
             }
         }
 
-        private void settlePresent() {
-            nets.settleInTest(stimuli, allOnes, board.faults, board.faultCount);
-        }
-
         int presentAnswer(int t, int c, int k) {
             prepare(t);
-            settlePresent();
+            nets.settleInTest(stimuli, allOnes, board.faults, board.faultCount);
             return nets.seenBy(c, k);
         }
 
         private void noteAnswers() {
-            settlePresent();
+            nets.settleInTest(stimuli, allOnes, board.faults, board.faultCount);
             for (int c = 0; c < board.chipCount; c++) {
                 for (int k = 0; k < board.chips[c].cellCount; k++) {
                     answers[c * CELLS + k] = nets.seenBy(c, k);

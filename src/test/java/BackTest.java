@@ -4,6 +4,9 @@ public final class BackTest {
         Check check = new Check("BackTest");
         fiveStates(check);
         everyAct(check);
+        throughChangingStates(check);
+        againInItsPlace(check);
+        singleClocks(check);
         failedActsKeepOldStates(check);
         notTakenBack(check);
         counts(check);
@@ -64,6 +67,17 @@ public final class BackTest {
         taken(check, x, "clock", before);
         x.clocks(16, 0b0000_0011_0000_0110, 0x5555);
         taken(check, x, "clocks", before);
+        x.clock(0, 0);
+        long idle = x.digest();
+        x.clocks(16, 0b0000_0011_0000_0011, 0x5555);
+        x.back();
+        check.due("the port before clocks", x.port(0), 1);
+        x.clocks(1, 0, 0);
+        check.due("digest before clocks", x.digest(), idle);
+        x.back();
+        x.back();
+        x.clocks(1, 1, 0);
+        x.clocks(1, 1, 0);
         long typed = typedDigest(x, "c2 9;k0 0;k1 0;");
         x.does();
         taken(check, x, "does", typed);
@@ -72,6 +86,97 @@ public final class BackTest {
     private static long typedDigest(ChipRing x, String text) {
         Boards.type(x, text);
         return x.digest();
+    }
+
+    /** Every act starts from another state, so that no place of a state holds the right one by chance. */
+    private static void throughChangingStates(Check check) {
+        String[] acts = {
+            "c2 256;", "p0 1 3;", "c3 17;", "p1 0 3;", "u3 0;", "c4 200;", "p2 1 3;", "o0 0;", "s3 6 1;", "p1 1 5;",
+            "k0 0;", "k1 0;k1 0;k0 0;k0 0;", "k0 1;k0 0;k0 0;k0 1;", "k1 0;k1 0;k0 0;", "k1 0;k0 0;k0 0;",
+            "k0 1;", "k0 1;k0 0;", "k1 1;k1 0;", "k0 0;", "h;", "k1 0;k1 0;k0 0;k0 0;", "k0 0;k0 0;k0 0;",
+            "k0 0;k0 0;k0 0;k0 0;k0 0;k0 0;", "k1 0;k1 0;k0 0;", "k1 0;k0 0;", "k0 0;", "k0 1;k0 0;k0 1;k0 1;k0 1;",
+            "k1 1;", "k1 0;", "k1 0;", "o1 0;", "u5 1;", "p0 0 5;", "h;", "c2 0;", "p3 1 7;", "s7 3 0;", "u6 0;"
+        };
+        for (int steps = 1; steps <= 5; steps++) {
+            ChipRing x = new ChipRing();
+            for (int i = 0; i < acts.length; i++) {
+                backAndOn(check, x, acts, i, steps);
+            }
+        }
+    }
+
+    /** Does the acts from number i on, takes them back, and does the first of them again. */
+    private static void backAndOn(Check check, ChipRing x, String[] acts, int i, int steps) {
+        long[][] before = new long[steps][];
+        int done = 0;
+        while (done < steps && i + done < acts.length) {
+            before[done] = boardOf(x);
+            check.due("does() of " + acts[i + done], Boards.does(x, acts[i + done]) > 0 ? 1 : 0, 1);
+            done++;
+        }
+        while (done > 0) {
+            done--;
+            x.back();
+            boolean same = java.util.Arrays.equals(boardOf(x), before[done]);
+            check.due("the board before " + acts[i + done] + " is back, steps " + steps, same ? 1 : 0, 1);
+        }
+        Boards.does(x, acts[i]);
+    }
+
+    private static long[] boardOf(ChipRing x) {
+        long[] all = Boards.everything(x);
+        return java.util.Arrays.copyOfRange(all, 5, all.length);
+    }
+
+    /** What was taken back leaves nothing to the chip or the cell that comes in its place. */
+    private static void againInItsPlace(Check check) {
+        ChipRing x = new ChipRing();
+        x.clocks(5, 0b00110, 0);
+        check.due("in shift IR", x.port(0), 11);
+        String shiftZeros = "k0 0;k1 0;k1 0;k1 0;k0 0;k0 0;";
+        String shiftOnes = "k1 1;k1 0;k1 0;k1 0;k0 0;k0 0;";
+        check.due("does()", Boards.does(x, "c2 256;p0 1 1;" + shiftZeros + shiftOnes), 14);
+        int[] used = {2, 256, 1, 0, 1, 1, 1, 1};
+        for (int what = 0; what < 8; what++) {
+            check.due("of(0, " + what + ") of the chip", x.of(0, what), used[what]);
+        }
+        check.due("back()", x.back(), 1);
+        check.due("no chip", x.count(0), 0);
+        x.chip(3, 99);
+        int[] due = {3, 99, 0, 2, 8, 0, 0, 0};
+        for (int what = 0; what < 8; what++) {
+            check.due("of(0, " + what + ") of the new chip", x.of(0, what), due[what]);
+        }
+        x.cell(0, 0, 2);
+        check.due("a new input", x.about(0, 0, 0), 0);
+        check.due("count(4)", x.count(4), 0);
+        check.due("an output", x.cell(0, 1, 5), 1);
+        check.due("count(4) then", x.count(4), 32);
+        x.back();
+        check.due("an input in its place", x.cell(0, 0, 6), 1);
+        check.due("its kind", x.about(0, 1, 0), 0);
+        check.due("its net", x.about(0, 1, 1), 6);
+        check.due("count(3) at last", x.count(3), 68);
+        check.due("count(4) at last", x.count(4), 0);
+        x.back();
+        check.due("an order that is refused", Boards.does(x, "p0 1 7;p0 1 9;"), -1001);
+        check.due("an input after it", x.cell(0, 0, 7), 1);
+        check.due("its kind then", x.about(0, 1, 0), 0);
+        check.due("count(4) after it", x.count(4), 0);
+    }
+
+    private static void singleClocks(Check check) {
+        ChipRing x = new ChipRing();
+        int[] way = {0, 1, 0, 0, 1, 0, 1, 1, 1, 1, 0, 0, 1};
+        int[] states = {0, 1, 2, 3, 4, 5, 6, 7, 8, 2, 9, 10, 11, 12};
+        for (int i = 0; i < way.length; i++) {
+            x.clock(way[i], 0);
+        }
+        for (int left = 4; left >= 0; left--) {
+            check.due("port(0) before back()", x.port(0), states[way.length - 4 + left]);
+            check.due("back()", x.back(), left);
+        }
+        check.due("port(0) at the end", x.port(0), states[way.length - 5]);
     }
 
     private static void failedActsKeepOldStates(Check check) {
@@ -187,6 +292,7 @@ public final class BackTest {
             2, 1, 1, 1, 1
         };
         check.due("digest of a board", x.digest(), Boards.digestOf(due));
+        digestOfTests(check);
         ChipRing y = Boards.pairInExtest();
         Boards.scanData(y, 0b10_01);
         y.opens(1, 0);
@@ -194,5 +300,29 @@ public final class BackTest {
         y.fault(-1);
         y.cell(1, 0, 6);
         check.due("digest by the methods", y.digest(), Boards.digestOf(Boards.everything(y)));
+    }
+
+    /** An OR of the codes 1 and 3 is seen at the code 3 by test 1 alone. */
+    private static void digestOfTests(Check check) {
+        ChipRing x = new ChipRing();
+        x.chip(2, 256);
+        x.cell(0, 1, 0);
+        x.cell(0, 1, 1);
+        x.cell(0, 1, 2);
+        x.cell(0, 0, 2);
+        x.shorts(0, 2, 1);
+        check.due("seen(0)", x.seen(0), 0);
+        check.due("seen(1)", x.seen(1), 1);
+        check.due("suspects(0, NONE)", x.suspects(0, ChipRing.NONE), 11);
+        check.due("suspects(1, NONE)", x.suspects(1, ChipRing.NONE), 1);
+        long[] due = {
+            0, 0, 0, 0, 5,
+            1, 4, 1, 7, 7,
+            0, 1, 2, 0, 255,
+            2, 256, 4, 3, 1, 0, 0, 0, 1, 0, 0, 1, 1, 0, 1, 2, 0, 0, 2, 1,
+            4002,
+            3, 0, 1, 11, 1
+        };
+        check.due("digest with tests that differ", x.digest(), Boards.digestOf(due));
     }
 }

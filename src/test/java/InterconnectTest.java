@@ -12,6 +12,7 @@ public final class InterconnectTest {
         suspectsOfTheWholeBoard(check);
         suspectsWithoutInputs(check);
         testOneKnowsMore(check);
+        inputsOfTheFirstChip(check);
         check.end();
     }
 
@@ -230,5 +231,22 @@ public final class InterconnectTest {
         x.shorts(0, 2, 1);
         suspectsAre(check, x, 0, 4001, 4002);
         suspectsAre(check, x, 1, 4002);
+    }
+
+    private static void inputsOfTheFirstChip(Check check) {
+        ChipRing x = new ChipRing();
+        x.chip(2, 256);
+        x.chip(2, 256);
+        x.cell(0, 0, 0);
+        x.cell(0, 0, 1);
+        x.cell(1, 1, 0);
+        x.cell(1, 1, 1);
+        check.due("sound", x.seen(0), 0);
+        x.sticks(0, 0);
+        check.due("stuck", x.seen(0), 1);
+        suspectsAre(check, x, 0, 2000);
+        x.heals();
+        x.opens(0, 1);
+        suspectsAre(check, x, 1, 1001, 1011, 2011);
     }
 }

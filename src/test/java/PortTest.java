@@ -23,6 +23,7 @@ public final class PortTest {
         extestWithoutCells(check);
         severalClocks(check);
         netsNow(check);
+        fullBoard(check);
         check.end();
     }
 
@@ -139,6 +140,7 @@ public final class PortTest {
     private static void latchesAndCapture(Check check) {
         ChipRing x = Boards.pairInExtest();
         check.due("port(1)", x.port(1), 4);
+        check.due("a single driver does not fight", x.port(3), 0);
         // chip 1 holds the two bits that went in first
         Boards.scanData(x, 0b01_10);
         check.due("latches of chip 0", x.of(0, 7), 0b01);
@@ -245,5 +247,34 @@ public final class PortTest {
         check.due("the 0 is open: 1", x.port(4), 255);
         x.shorts(4, 5, 0);
         check.due("a short is no fight", x.port(3), 0);
+    }
+
+    /** Four chips with six cells each, through all the states that do something. */
+    private static void fullBoard(Check check) {
+        ChipRing x = new ChipRing();
+        for (int c = 0; c < 4; c++) {
+            x.chip(4, 10 + c);
+        }
+        for (int k = 0; k < 6; k++) {
+            x.cell(0, 1, k);
+            x.cell(1, k < 2 ? 1 : 0, k < 2 ? 6 + k : k - 2);
+            x.cell(2, 0, k);
+            x.cell(3, 0, k + 2);
+        }
+        Boards.toIdle(x);
+        check.due("data bits at first", x.port(1), 32);
+        check.due("identities", Boards.scanData(x, 0), 0x0A0B0C0DL);
+        check.due("instruction bits", x.port(2), 16);
+        check.due("captured instructions", Boards.loadInstructions(x, 0), 0x1111);
+        check.due("data bits in EXTEST", x.port(1), 24);
+        Boards.scanData(x, 0b101101_000010_000000_000000);
+        check.due("nets", x.port(4), 0b10_101101);
+        check.due("latches of chip 0", x.of(0, 7), 0b101101);
+        check.due("captured data", Boards.scanData(x, -1), 0b101101_110110_101101_101011);
+        check.due("all latches", x.of(0, 7) + x.of(1, 7) + x.of(2, 7) + x.of(3, 7), 4 * 63);
+        check.due("nets then", x.port(4), 255);
+        check.due("no fight", x.port(3), 0);
+        Boards.toIdle(x);
+        check.due("initial instructions", x.of(0, 3) + x.of(1, 3) + x.of(2, 3) + x.of(3, 3), 8);
     }
 }
