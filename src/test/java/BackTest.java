@@ -1,3 +1,5 @@
+import java.util.Arrays;
+
 /** Promises 23 to 25: back, told, digest. */
 public final class BackTest {
     public static void main(String[] args) {
@@ -91,41 +93,58 @@ public final class BackTest {
     /** Every act starts from another state, so that no place of a state holds the right one by chance. */
     private static void throughChangingStates(Check check) {
         String[] acts = {
-            "c2 256;", "p0 1 3;", "c3 17;", "p1 0 3;", "u3 0;", "c4 200;", "p2 1 3;", "o0 0;", "s3 6 1;", "p1 1 5;",
-            "k0 0;", "k1 0;k1 0;k0 0;k0 0;", "k0 1;k0 0;k0 0;k0 1;", "k1 0;k1 0;k0 0;", "k1 0;k0 0;k0 0;",
-            "k0 1;", "k0 1;k0 0;", "k1 1;k1 0;", "k0 0;", "h;", "k1 0;k1 0;k0 0;k0 0;", "k0 0;k0 0;k0 0;",
-            "k0 0;k0 0;k0 0;k0 0;k0 0;k0 0;", "k1 0;k1 0;k0 0;", "k1 0;k0 0;", "k0 0;", "k0 1;k0 0;k0 1;k0 1;k0 1;",
-            "k1 1;", "k1 0;", "k1 0;", "o1 0;", "u5 1;", "p0 0 5;", "h;", "c2 0;", "p3 1 7;", "s7 3 0;", "u6 0;"
+            "c 2 256", "p 0 1 3", "c 3 17", "p 1 0 3", "u 3 0", "c 4 200", "p 2 1 3", "o 0 0", "s 3 6 1", "p 1 1 5",
+            "k 1 0 0", "k 4 3 0", "k 4 0 9", "k 3 3 0", "k 3 1 0", "k 1 0 1", "k 2 0 1", "k 2 3 1", "k 1 0 0", "h",
+            "k 4 3 0", "k 3 0 0", "k 6 0 0", "k 3 3 0", "k 2 1 0", "k 1 0 0", "k 5 0 29", "k 1 1 1", "k 1 1 0",
+            "k 1 1 0", "o 1 0", "u 5 1", "p 0 0 5", "h", "c 2 0", "p 3 1 7", "s 7 3 0", "u 6 0"
         };
         for (int steps = 1; steps <= 5; steps++) {
-            ChipRing x = new ChipRing();
-            for (int i = 0; i < acts.length; i++) {
-                backAndOn(check, x, acts, i, steps);
+            for (int i = 0; i + steps <= acts.length; i++) {
+                ChipRing x = after(acts, i + steps);
+                for (int taken = 0; taken < steps; taken++) {
+                    x.back();
+                }
+                same(check, x, after(acts, i), steps + " acts before act " + (i + steps));
+                act(x, acts[i]);
+                same(check, x, after(acts, i + 1), steps + " acts before, and act " + i + " again");
             }
         }
     }
 
-    /** Does the acts from number i on, takes them back, and does the first of them again. */
-    private static void backAndOn(Check check, ChipRing x, String[] acts, int i, int steps) {
-        long[][] before = new long[steps][];
-        int done = 0;
-        while (done < steps && i + done < acts.length) {
-            before[done] = boardOf(x);
-            check.due("does() of " + acts[i + done], Boards.does(x, acts[i + done]) > 0 ? 1 : 0, 1);
-            done++;
+    private static void same(Check check, ChipRing x, ChipRing y, String when) {
+        check.due("the same board, " + when, Arrays.equals(boardOf(x), boardOf(y)) ? 1 : 0, 1);
+    }
+
+    /** A new object on which the first n acts were done. */
+    private static ChipRing after(String[] acts, int n) {
+        ChipRing x = new ChipRing();
+        for (int i = 0; i < n; i++) {
+            act(x, acts[i]);
         }
-        while (done > 0) {
-            done--;
-            x.back();
-            boolean same = java.util.Arrays.equals(boardOf(x), before[done]);
-            check.due("the board before " + acts[i + done] + " is back, steps " + steps, same ? 1 : 0, 1);
+        return x;
+    }
+
+    /** Does an act that is told as in a text, but with k for clocks(). */
+    private static void act(ChipRing x, String act) {
+        int[] v = new int[4];
+        String[] words = act.split(" ");
+        for (int i = 1; i < words.length; i++) {
+            v[i] = Integer.parseInt(words[i]);
         }
-        Boards.does(x, acts[i]);
+        switch (act.charAt(0)) {
+            case 'c': x.chip(v[1], v[2]); break;
+            case 'p': x.cell(v[1], v[2], v[3]); break;
+            case 'o': x.opens(v[1], v[2]); break;
+            case 'u': x.sticks(v[1], v[2]); break;
+            case 's': x.shorts(v[1], v[2], v[3]); break;
+            case 'k': x.clocks(v[1], v[2], v[3]); break;
+            default: x.heals(); break;
+        }
     }
 
     private static long[] boardOf(ChipRing x) {
         long[] all = Boards.everything(x);
-        return java.util.Arrays.copyOfRange(all, 5, all.length);
+        return Arrays.copyOfRange(all, 5, all.length);
     }
 
     /** What was taken back leaves nothing to the chip or the cell that comes in its place. */
@@ -264,9 +283,6 @@ public final class BackTest {
         check.due("BAD as before", x.told(0), 19);
         check.due("bytes", x.told(3), 120);
         check.due("states", x.told(4), 5);
-        for (int what : new int[] {-1, 5, Integer.MIN_VALUE, Integer.MAX_VALUE}) {
-            check.refused(x, "told(" + what + ")", () -> x.told(what), ChipRing.BAD);
-        }
     }
 
     private static void digests(Check check) {

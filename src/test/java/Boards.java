@@ -3,7 +3,20 @@ import java.util.List;
 
 /** Ways through the port, and boards that several tests use. */
 final class Boards {
+    /** The TMS bits that lead from reset to each state. */
+    private static final String[] WAY = {
+        "", "0", "01", "010", "0100", "0101", "01010", "010101",
+        "01011", "011", "0110", "01100", "01101", "011010", "0110101", "011011"
+    };
+
     private Boards() {
+    }
+
+    /** From reset, with TDI 0. */
+    static void toState(ChipRing x, int state) {
+        for (char c : WAY[state].toCharArray()) {
+            x.clock(c - '0', 0);
+        }
     }
 
     static void type(ChipRing x, String text) {

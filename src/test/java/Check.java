@@ -1,6 +1,7 @@
 /** Compares answers with those that are due, and ends a test. */
 final class Check {
     private final String name;
+    private String heading = "";
     private int made;
     private int wrong;
 
@@ -8,11 +9,20 @@ final class Check {
         this.name = name;
     }
 
+    /** What is printed before the calls from now on. */
+    void under(String words) {
+        heading = " [" + words + "]";
+    }
+
+    int made() {
+        return made;
+    }
+
     void due(String call, long got, long want) {
         made++;
         if (got != want) {
             wrong++;
-            System.out.println(name + ": " + call + " answered " + got + ", due is " + want);
+            System.out.println(name + heading + ": " + call + " answered " + got + ", due is " + want);
         }
     }
 

@@ -1,7 +1,5 @@
 /** Promises 11 to 14: of, about, count, fault. */
 public final class DescribeTest {
-    private static final int[] FAR = {Integer.MIN_VALUE, -1, 4, 100, Integer.MAX_VALUE};
-
     public static void main(String[] args) {
         Check check = new Check("DescribeTest");
         chips(check);
@@ -19,13 +17,6 @@ public final class DescribeTest {
             for (int what = 0; what < 8; what++) {
                 check.due("of(" + c + ", " + what + ")", x.of(c, what), due[c][what]);
             }
-        }
-        for (int c : FAR) {
-            check.refused(x, "of(" + c + ", 0)", () -> x.of(c, 0), ChipRing.BAD);
-        }
-        check.refused(x, "of(2, 0)", () -> x.of(2, 0), ChipRing.BAD);
-        for (int what : new int[] {-1, 8, Integer.MIN_VALUE, Integer.MAX_VALUE}) {
-            check.refused(x, "of(0, " + what + ")", () -> x.of(0, what), ChipRing.BAD);
         }
         instructions(check);
     }
@@ -61,15 +52,6 @@ public final class DescribeTest {
                 }
             }
         }
-        for (int v : FAR) {
-            check.refused(x, "about(" + v + ", 0, 0)", () -> x.about(v, 0, 0), ChipRing.BAD);
-            check.refused(x, "about(0, " + v + ", 0)", () -> x.about(0, v, 0), ChipRing.BAD);
-            check.refused(x, "about(0, 0, " + v + ")", () -> x.about(0, 0, v), ChipRing.BAD);
-        }
-        check.refused(x, "about(2, 0, 0)", () -> x.about(2, 0, 0), ChipRing.BAD);
-        check.refused(x, "about(0, 2, 0)", () -> x.about(0, 2, 0), ChipRing.BAD);
-        check.refused(x, "about(0, 0, 3)", () -> x.about(0, 0, 3), ChipRing.BAD);
-        check.refused(x, "about(1, 0, 3)", () -> x.about(1, 0, 3), ChipRing.BAD);
     }
 
     private static void counts(Check check) {
@@ -87,9 +69,6 @@ public final class DescribeTest {
         int[] due = {3, 5, 2, 0b10001101, 0b10001000};
         for (int what = 0; what < 5; what++) {
             check.due("count(" + what + ")", x.count(what), due[what]);
-        }
-        for (int what : new int[] {-1, 5, Integer.MIN_VALUE, Integer.MAX_VALUE}) {
-            check.refused(x, "count(" + what + ")", () -> x.count(what), ChipRing.BAD);
         }
         x.back();
         x.back();
@@ -114,8 +93,6 @@ public final class DescribeTest {
             check.due("fault(" + i + ")", x.fault(i), ChipRing.NONE);
         }
         check.due("NONE is not counted", x.told(0), bads);
-        check.refused(x, "fault(-1)", () -> x.fault(-1), ChipRing.BAD);
-        check.refused(x, "fault(least)", () -> x.fault(Integer.MIN_VALUE), ChipRing.BAD);
         x.sticks(1, 1);
         check.due("the fourth fault", x.fault(3), 2011);
     }

@@ -101,6 +101,22 @@ public final class FaceTest {
         if (!(bean instanceof com.sun.management.ThreadMXBean threads) || !threads.isThreadAllocatedMemorySupported()) {
             return;
         }
+        ChipRing[] boards = new ChipRing[10];
+        for (int i = 0; i < boards.length; i++) {
+            boards[i] = largeBoard();
+            useAll(boards[i]);
+        }
+        long id = Thread.currentThread().getId();
+        threads.getThreadAllocatedBytes(id);
+        long before = threads.getThreadAllocatedBytes(id);
+        for (int i = 0; i < 400; i++) {
+            useAll(boards[i % boards.length]);
+        }
+        long made = threads.getThreadAllocatedBytes(id) - before;
+        check.due("bytes made by 400 rounds (" + made + ") are few", made < 2000 ? 1 : 0, 1);
+    }
+
+    private static ChipRing largeBoard() {
         ChipRing x = new ChipRing();
         for (int c = 0; c < 4; c++) {
             x.chip(4, c);
@@ -111,15 +127,7 @@ public final class FaceTest {
         x.opens(0, 0);
         x.sticks(7, 1);
         Boards.type(x, "h;h;k0 0;k1 1;u3 1;s3 4 1;o0 1;");
-        long id = Thread.currentThread().getId();
-        useAll(x);
-        threads.getThreadAllocatedBytes(id);
-        long before = threads.getThreadAllocatedBytes(id);
-        for (int i = 0; i < 200; i++) {
-            useAll(x);
-        }
-        long made = threads.getThreadAllocatedBytes(id) - before;
-        check.due("bytes made by 200 rounds (" + made + ") are few", made < 2000 ? 1 : 0, 1);
+        return x;
     }
 
     private static void useAll(ChipRing x) {

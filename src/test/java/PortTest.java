@@ -4,16 +4,10 @@ public final class PortTest {
         {1, 0}, {1, 2}, {3, 9}, {4, 5}, {4, 5}, {6, 8}, {6, 7}, {4, 8},
         {1, 2}, {10, 0}, {11, 12}, {11, 12}, {13, 15}, {13, 14}, {11, 15}, {1, 2}
     };
-    /** The TMS bits that lead from reset to each state. */
-    private static final String[] WAY = {
-        "", "0", "01", "010", "0100", "0101", "01010", "010101",
-        "01011", "011", "0110", "01100", "01101", "011010", "0110101", "011011"
-    };
 
     public static void main(String[] args) {
         Check check = new Check("PortTest");
         allTransitions(check);
-        wrongArguments(check);
         withoutChips(check);
         resetState(check);
         instructionPath(check);
@@ -32,33 +26,13 @@ public final class PortTest {
             for (int tms = 0; tms < 2; tms++) {
                 ChipRing x = new ChipRing();
                 x.chip(2, 3);
-                for (char c : WAY[state].toCharArray()) {
-                    x.clock(c - '0', 0);
-                }
+                Boards.toState(x, state);
                 check.due("the way to state " + state, x.port(0), state);
                 int answer = x.clock(tms, 1);
                 boolean shifts = state == 4 || state == 11;
                 check.due("clock in state " + state, answer, shifts ? 1 : 2);
                 check.due("state " + state + " with TMS " + tms, x.port(0), NEXT[state][tms]);
             }
-        }
-    }
-
-    private static void wrongArguments(Check check) {
-        ChipRing x = Boards.pairInExtest();
-        for (int v : new int[] {-1, 2, Integer.MIN_VALUE, Integer.MAX_VALUE}) {
-            check.refused(x, "clock(" + v + ", 0)", () -> x.clock(v, 0), ChipRing.BAD);
-            check.refused(x, "clock(0, " + v + ")", () -> x.clock(0, v), ChipRing.BAD);
-        }
-        for (int v : new int[] {-1, 0, 17, Integer.MIN_VALUE, Integer.MAX_VALUE}) {
-            check.refused(x, "clocks(" + v + ", 0, 0)", () -> x.clocks(v, 0, 0), ChipRing.BAD);
-        }
-        for (int v : new int[] {-1, 65536, Integer.MIN_VALUE, Integer.MAX_VALUE}) {
-            check.refused(x, "clocks(1, " + v + ", 0)", () -> x.clocks(1, v, 0), ChipRing.BAD);
-            check.refused(x, "clocks(1, 0, " + v + ")", () -> x.clocks(1, 0, v), ChipRing.BAD);
-        }
-        for (int v : new int[] {-1, 5, Integer.MIN_VALUE, Integer.MAX_VALUE}) {
-            check.refused(x, "port(" + v + ")", () -> x.port(v), ChipRing.BAD);
         }
     }
 
