@@ -18,6 +18,7 @@ public final class BackEdgesTest {
         edges.sentence(23, "everything except the text buffer", BackEdgesTest::textStays);
         edges.sentence(23, "and the counts of errors", BackEdgesTest::countsStay);
         edges.sentence(23, "A state is everything", BackEdgesTest::everythingComesBack);
+        edges.sentence(23, "Returns to the state, not to another that was kept in its place", BackEdgesTest::otherStates);
 
         edges.sentence(0, "A call that returns an error code is counted (in any method)", BackEdgesTest::countedOnce);
         edges.sentence(0, "NONE means that there is no such thing, and is no error", BackEdgesTest::noneIsNotCounted);
@@ -168,6 +169,11 @@ public final class BackEdgesTest {
         for (int left = 4; left >= 0; left--) {
             check.due("back()", x.back(), left);
         }
+        for (String text : new String[] {"h;", "k1 0;"}) {
+            ChipRing one = new ChipRing();
+            check.due("does() of " + text, Boards.does(one, text), 1);
+            check.due("told(4) after " + text, one.told(4), 1);
+        }
         ChipRing y = board();
         for (int i = 0; i < 5; i++) {
             y.clock(1, 0);
@@ -253,10 +259,11 @@ public final class BackEdgesTest {
                 ChipRing x = board();
                 Boards.toIdle(x);
                 Boards.loadInstructions(x, 0);
-                Boards.scanData(x, 3);
-                Boards.toIdle(x);
-                x.clocks(4, 15, 0);
+                // the latch of the input is 0, and it sees 1
+                Boards.scanData(x, 0b10);
+                x.clocks(3, state == 0 ? 7 : 0, 0);
                 Boards.toState(x, state);
+                check.due("the state", x.port(0), state);
                 long[] before = Boards.everything(x);
                 ACTS[a].on(x);
                 x.back();
@@ -266,6 +273,32 @@ public final class BackEdgesTest {
                     check.due(call, i < after.length ? after[i] : Long.MIN_VALUE, before[i]);
                 }
                 check.due("values", after.length, before.length);
+            }
+        }
+    }
+
+    /** Boards that differ in everything take turns, so that an old copy would be seen. */
+    private static void otherStates(Check check) {
+        for (int filling = 0; filling < 8; filling++) {
+            ChipRing x = new ChipRing();
+            for (int i = 0; i < filling; i++) {
+                x.heals();
+            }
+            for (int turn = 0; turn < 4; turn++) {
+                String text = turn % 2 == 0 ? "c2 256;p0 1 3;p0 0 2;u3 1;u2 0;k0 0;" : "c4 9;p0 0 6;p0 1 7;s6 7 0;";
+                Boards.does(x, text);
+                long[] before = Boards.everything(x);
+                x.does();
+                x.back();
+                long[] after = Boards.everything(x);
+                for (int i = 5; i < before.length; i++) {
+                    long is = i < after.length ? after[i] : Long.MIN_VALUE;
+                    check.due("value " + i + " in turn " + turn, is, before[i]);
+                }
+                x.back();
+                check.due("chips", x.count(0), 0);
+                check.due("faults", x.count(2), 0);
+                check.due("nets", x.count(3), 0);
             }
         }
     }
@@ -373,5 +406,26 @@ public final class BackEdgesTest {
         y.sticks(7, 1);
         y.sticks(7, 1);
         check.due("digest() by the methods", y.digest(), Boards.digestOf(Boards.everything(y)));
+        digestOfTests(check);
+    }
+
+    /** An OR of the codes 1 and 3 is seen at the code 3 by test 1 alone. */
+    private static void digestOfTests(Check check) {
+        ChipRing x = new ChipRing();
+        x.chip(2, 256);
+        x.cell(0, 1, 0);
+        x.cell(0, 1, 1);
+        x.cell(0, 1, 2);
+        x.cell(0, 0, 2);
+        x.shorts(0, 2, 1);
+        long[] due = {
+            0, 0, 0, 0, 5,
+            1, 4, 1, 7, 7,
+            0, 1, 2, 0, 255,
+            2, 256, 4, 3, 1, 0, 0, 0, 1, 0, 0, 1, 1, 0, 1, 2, 0, 0, 2, 1,
+            4002,
+            3, 0, 1, 11, 1
+        };
+        check.due("digest() with tests that differ", x.digest(), Boards.digestOf(due));
     }
 }

@@ -308,7 +308,6 @@ public final class BackTest {
             2, 1, 1, 1, 1
         };
         check.due("digest of a board", x.digest(), Boards.digestOf(due));
-        digestOfTests(check);
         ChipRing y = Boards.pairInExtest();
         Boards.scanData(y, 0b10_01);
         y.opens(1, 0);
@@ -316,29 +315,5 @@ public final class BackTest {
         y.fault(-1);
         y.cell(1, 0, 6);
         check.due("digest by the methods", y.digest(), Boards.digestOf(Boards.everything(y)));
-    }
-
-    /** An OR of the codes 1 and 3 is seen at the code 3 by test 1 alone. */
-    private static void digestOfTests(Check check) {
-        ChipRing x = new ChipRing();
-        x.chip(2, 256);
-        x.cell(0, 1, 0);
-        x.cell(0, 1, 1);
-        x.cell(0, 1, 2);
-        x.cell(0, 0, 2);
-        x.shorts(0, 2, 1);
-        check.due("seen(0)", x.seen(0), 0);
-        check.due("seen(1)", x.seen(1), 1);
-        check.due("suspects(0, NONE)", x.suspects(0, ChipRing.NONE), 11);
-        check.due("suspects(1, NONE)", x.suspects(1, ChipRing.NONE), 1);
-        long[] due = {
-            0, 0, 0, 0, 5,
-            1, 4, 1, 7, 7,
-            0, 1, 2, 0, 255,
-            2, 256, 4, 3, 1, 0, 0, 0, 1, 0, 0, 1, 1, 0, 1, 2, 0, 0, 2, 1,
-            4002,
-            3, 0, 1, 11, 1
-        };
-        check.due("digest with tests that differ", x.digest(), Boards.digestOf(due));
     }
 }

@@ -24,6 +24,7 @@ public final class BoardEdgesTest {
         edges.sentence(3, "FULL if the chip has 6 cells", BoardEdgesTest::sixCells);
         edges.sentence(3, "If several apply, the first: BAD, then FULL", BoardEdgesTest::badCellWhenFull);
         edges.sentence(3, "a latch (a bit, 0 at first)", BoardEdgesTest::newLatch);
+        edges.sentence(3, "A cell is an input or an output, also where another was", BoardEdgesTest::cellInThePlaceOfAnother);
 
         edges.sentence(4, "BAD if there is no such chip", BoardEdgesTest::openOfNoChip);
         edges.sentence(4, "BAD if there is no such cell", BoardEdgesTest::openOfNoCell);
@@ -210,6 +211,46 @@ public final class BoardEdgesTest {
         check.due("cells", x.of(2, 2), 0);
         check.due("the register of the chip before it", x.of(1, 5), 3);
         check.due("its first bit out", x.clock(0, 0), 0);
+        inThePlaceOfAnother(check);
+    }
+
+    /** The chip before it had something in all its registers, and was taken back by one call. */
+    private static void inThePlaceOfAnother(Check check) {
+        ChipRing x = new ChipRing();
+        x.clocks(5, 0b00110, 0);
+        check.due("in shift IR", x.port(0), 11);
+        String latches = "k0 0;k1 0;k1 0;k1 0;k0 0;k0 0;k1 1;k1 0;";
+        check.due("a chip with a cell in EXTEST", Boards.does(x, "c2 256;p0 1 1;" + latches + "k1 0;k1 0;k0 0;k0 0;"), 14);
+        check.due("instruction register", x.of(0, 5), 1);
+        check.due("data register", x.of(0, 6), 1);
+        check.due("latches", x.of(0, 7), 1);
+        x.back();
+        check.due("no chip", x.count(0), 0);
+        x.chip(3, 99);
+        int[] due = {3, 99, 0, 2, 8, 0, 0, 0};
+        for (int what = 0; what < 8; what++) {
+            check.due("of(0, " + what + ")", x.of(0, what), due[what]);
+        }
+        x.cell(0, 0, 5);
+        check.due("a cell is what it was made", x.about(0, 0, 0), 0);
+        check.due("count(4)", x.count(4), 0);
+    }
+
+    private static void cellInThePlaceOfAnother(Check check) {
+        ChipRing x = chips(1);
+        x.cell(0, 1, 3);
+        x.cell(0, 1, 5);
+        x.back();
+        check.due("an input where an output was", x.cell(0, 0, 6), 1);
+        check.due("its kind", x.about(0, 1, 0), 0);
+        check.due("its net", x.about(0, 1, 1), 6);
+        check.due("nets with cells", x.count(3), 72);
+        check.due("nets with outputs", x.count(4), 8);
+        x.back();
+        check.due("an order that is refused", Boards.does(x, "p0 1 7;p0 1 8;"), -1001);
+        check.due("an input after it", x.cell(0, 0, 7), 1);
+        check.due("its kind then", x.about(0, 1, 0), 0);
+        check.due("nets with outputs then", x.count(4), 8);
     }
 
     // ---- promise 3

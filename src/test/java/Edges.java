@@ -23,7 +23,7 @@ final class Edges {
         check = new Check(name);
     }
 
-    /** The words are those of the document, behind the number of their promise (0 for the description). */
+    /** The words are those of the document, or a short form; 0 stands for its description, which has no number. */
     void sentence(int promise, String words, Consumer<Check> test) {
         int before = check.made();
         check.under(promise + ": " + words);

@@ -25,6 +25,7 @@ public final class InterconnectEdgesTest {
         edges.sentence(17, "BAD if there is no such chip or cell", InterconnectEdgesTest::answerOfNoCell);
         edges.sentence(17, "BAD if the cell is an output", InterconnectEdgesTest::answerOfOutput);
         edges.sentence(17, "the number whose bit i is what it sees in pattern i", InterconnectEdgesTest::answerBits);
+        edges.sentence(17, "with the present faults, shorts before stuck nets", InterconnectEdgesTest::faultsInOrder);
         edges.sentence(17, "as if their instruction were EXTEST", InterconnectEdgesTest::anyInstruction);
         edges.sentence(17, "The real latches, registers and the port are not changed", InterconnectEdgesTest::unchanged);
 
@@ -261,6 +262,25 @@ public final class InterconnectEdgesTest {
         y.cell(2, 0, 7);
         check.due("the largest code", y.answer(0, 2, 1), 8);
         check.due("the largest code in test 1", y.answer(1, 2, 1), 0b0111_1000);
+    }
+
+    private static void faultsInOrder(Check check) {
+        ChipRing x = outputs(3);
+        x.cell(2, 0, 1);
+        x.sticks(1, 0);
+        x.shorts(0, 1, 1);
+        check.due("the OR does not see the stuck net", x.answer(1, 2, 0), 0b111_011);
+        check.due("the stuck net", x.answer(1, 2, 1), 0);
+        x.sticks(1, 1);
+        check.due("the latest stuck one holds", x.answer(1, 2, 1), 0b111_111);
+        ChipRing y = outputs(3);
+        y.shorts(0, 1, 0);
+        y.shorts(0, 2, 1);
+        check.due("AND with the code 2, then OR with the code 3", y.answer(0, 2, 0), 0b011);
+        y.heals();
+        y.shorts(0, 2, 1);
+        y.shorts(0, 1, 0);
+        check.due("OR with the code 3, then AND with the code 2", y.answer(0, 2, 0), 0b010);
     }
 
     private static void anyInstruction(Check check) {

@@ -33,6 +33,7 @@ public final class PortEdgesTest {
         edges.sentence(0, "every other instruction is BYPASS", PortEdgesTest::otherInstructions);
         edges.sentence(0, "reset: each chip gets its initial instruction", PortEdgesTest::resetByAClock);
         edges.sentence(0, "the content of each instruction register becomes 1", PortEdgesTest::captureIr);
+        edges.sentence(0, "bit k is what cell k sees (for an input) or its latch", PortEdgesTest::captureDr);
         edges.sentence(0, "the bit that comes in becomes its highest bit", PortEdgesTest::highestBit);
         edges.sentence(0, "The contents of registers stay when the instruction changes", PortEdgesTest::contentsStay);
         edges.sentence(0, "the latches stay when the instruction changes", PortEdgesTest::latchesStay);
@@ -406,6 +407,46 @@ public final class PortEdgesTest {
         check.due("1 is SAMPLE then", x.of(2, 3), 1);
     }
 
+    /** Nothing is asked before the capture, so that it has to settle the nets itself. */
+    private static void captureDr(Check check) {
+        for (int k = 0; k < 6; k++) {
+            ChipRing x = new ChipRing();
+            x.chip(2, 256);
+            for (int i = 0; i < 6; i++) {
+                x.cell(0, i == k ? 0 : 1, i == k ? 7 : i);
+            }
+            Boards.toIdle(x);
+            Boards.loadInstructions(x, 0);
+            Boards.scanData(x, 0b101010);
+            x.sticks(7, 0);
+            Boards.toShiftDr(x);
+            check.due("input " + k + " at 0", x.of(0, 6), 0b101010 & ~(1 << k));
+            x.clocks(3, 3, 0);
+            x.heals();
+            x.clocks(3, 1, 0);
+            int latches = x.of(0, 7);
+            check.due("input " + k + " at 1", x.of(0, 6), latches | 1 << k);
+        }
+        ChipRing inputs = new ChipRing();
+        inputs.chip(2, 256);
+        for (int i = 0; i < 6; i++) {
+            inputs.cell(0, 0, i);
+        }
+        Boards.toIdle(inputs);
+        Boards.loadInstructions(inputs, 1);
+        inputs.sticks(0, 0);
+        inputs.sticks(4, 0);
+        Boards.toShiftDr(inputs);
+        check.due("six inputs", inputs.of(0, 6), 0b101110);
+        inputs.clocks(3, 3, 0);
+        inputs.sticks(4, 1);
+        inputs.sticks(5, 0);
+        inputs.clocks(2, 1, 0);
+        check.due("before the clock in capture DR", inputs.of(0, 6), 0b010111);
+        inputs.clock(1, 0);
+        check.due("after it", inputs.of(0, 6), 0b011110);
+    }
+
     private static void highestBit(Check check) {
         for (int l = 2; l <= 4; l++) {
             ChipRing x = new ChipRing();
@@ -470,6 +511,11 @@ public final class PortEdgesTest {
         check.due("the new highest bit", x.of(0, 6), 5);
         x.clocks(2, 1, 0);
         check.due("the new latches", x.of(0, 7), 5);
+        ChipRing y = inState(SHIFT_IR);
+        y.clocks(2, 0, 3);
+        y.cell(0, 1, 0);
+        check.due("an instruction register of ones", y.of(0, 5), 3);
+        check.due("a bit of it", y.clock(0, 0), 1);
     }
 
     // ---- the nets
